@@ -289,11 +289,11 @@ public final class DomainSolver {
         int stuck = VARIABLES;
         for (int v = VARIABLES - 1; v >= 0; v--) {
             if ((domains[v] >> values[v] & 1) == 0) {
-                stuck = chosenWay == ONE_BY_ONE ? VARIABLES - 1 : v;
+                stuck = chosenWay >= SKIP_BY_DOMAINS ? v : VARIABLES - 1;
             }
         }
         for (int i = 0; i < constraints; i++) {
-            int last = chosenWay == SKIP_BY_CONSTRAINTS ? lastVariable(i) : VARIABLES - 1;
+            int last = chosenWay >= SKIP_BY_CONSTRAINTS ? lastVariable(i) : VARIABLES - 1;
             if ((leftOut >> i & 1) == 0 && last < stuck && !holds(i)) {
                 stuck = last;
             }

@@ -8,6 +8,7 @@ public final class AnswersTest {
         for (int way = 0; way <= 2; way++) {
             someSolutions(way);
             orderOfSolutions(way);
+            oneSolution(way);
             noSolutions(way);
             emptyDomain(way);
             sums(way);
@@ -61,6 +62,16 @@ public final class AnswersTest {
         }
         checks.due("11: bestOne(1200) of sum 17", x.bestOne(1200), 2 * 216 + 5 * 36 + 5 * 6 + 5);
         checks.due("10: best(1200) of sum 17", x.best(1200), 20);
+    }
+
+    private static void oneSolution(int way) {
+        DomainSolver x = inWay(way);
+        x.constraint(1, 0, -60, 0);
+        checks.due("7: count() of one", x.count(), 1);
+        checks.due("8: possible(2) of one", x.possible(2), 32);
+        checks.due("6: first(2) of one", x.first(2), 5);
+        checks.due("14: countWith(2, 5) of one", x.countWith(2, 5), 1);
+        checks.due("10: best(2400) of one", x.best(2400), 1);
     }
 
     private static void noSolutions(int way) {
@@ -160,6 +171,11 @@ public final class AnswersTest {
         x.least(0);
         checks.due("14: countWith(2, 5) after least", x.countWith(2, 5), 2);
         x.domain(2, 32);
-        checks.due("7: count() after domain", x.count(), 2);
+        checks.due("10: best(1200) just after domain", x.best(1200), 2);
+        x.domain(0, 16);
+        checks.due("11: bestOne(1200) just after domain", x.bestOne(1200), 4 * 216 + 2 * 36 + 5 * 6 + 3);
+        x.domain(3, 3);
+        checks.due("7: count() just after domain", x.count(), 2);
+        checks.due("8: possible(3) of both", x.possible(3), 3);
     }
 }
