@@ -1,7 +1,7 @@
 /** Promises 5 to 11, 14 and 16: what is asked of the solutions, each in all three ways. */
 public final class AnswersTest {
-    private static final int LOW = Integer.MIN_VALUE;
-    private static final int HIGH = Integer.MAX_VALUE;
+    private static final int LOW = Solvers.LOW;
+    private static final int HIGH = Solvers.HIGH;
     private static final Checks checks = new Checks();
 
     public static void main(String[] args) {
@@ -19,15 +19,9 @@ public final class AnswersTest {
         checks.end();
     }
 
-    private static DomainSolver inWay(int way) {
-        DomainSolver x = new DomainSolver();
-        x.way(way);
-        return x;
-    }
-
     /** Variable 0 is 2 or 4, variable 1 is half of it, variable 2 is 0 or 5, variable 3 is 3. */
     private static DomainSolver halves(int way) {
-        DomainSolver x = inWay(way);
+        DomainSolver x = Solvers.inWay(way);
         x.domain(0, 1 << 2 | 1 << 4);
         x.domain(2, 1 << 0 | 1 << 5);
         x.domain(3, 1 << 3);
@@ -54,7 +48,7 @@ public final class AnswersTest {
 
     /** The value of variable 0 comes first in the order, even where later variables grow smaller. */
     private static void orderOfSolutions(int way) {
-        DomainSolver x = inWay(way);
+        DomainSolver x = Solvers.inWay(way);
         x.constraint(1, 4 + 4 * 7 + 4 * 49 + 4 * 343, 17, 0);
         int[] first = {2, 5, 5, 5};
         for (int v = 0; v < 4; v++) {
@@ -65,7 +59,7 @@ public final class AnswersTest {
     }
 
     private static void oneSolution(int way) {
-        DomainSolver x = inWay(way);
+        DomainSolver x = Solvers.inWay(way);
         x.constraint(1, 0, -60, 0);
         checks.due("7: count() of one", x.count(), 1);
         checks.due("8: possible(2) of one", x.possible(2), 32);
@@ -75,14 +69,14 @@ public final class AnswersTest {
     }
 
     private static void noSolutions(int way) {
-        DomainSolver x = inWay(way);
+        DomainSolver x = Solvers.inWay(way);
         x.constraint(6, 2, 2, 1);
         everyAnswerWithoutSolution(x);
     }
 
     private static void emptyDomain(int way) {
         for (int v = 0; v < 4; v++) {
-            DomainSolver x = inWay(way);
+            DomainSolver x = Solvers.inWay(way);
             x.domain(v, 0);
             everyAnswerWithoutSolution(x);
         }
@@ -104,7 +98,7 @@ public final class AnswersTest {
     }
 
     private static void sums(int way) {
-        DomainSolver x = inWay(way);
+        DomainSolver x = Solvers.inWay(way);
         checks.due("9: least(0)", x.least(0), -60);
         checks.due("10: best(0)", x.best(0), 1);
         checks.due("11: bestOne(0)", x.bestOne(0), 1295);
@@ -139,7 +133,7 @@ public final class AnswersTest {
 
     /** BAD comes before NONE and before 0. */
     private static void wrongNumbers(int way, boolean withSolutions) {
-        DomainSolver x = inWay(way);
+        DomainSolver x = Solvers.inWay(way);
         if (!withSolutions) {
             x.domain(0, 0);
         }

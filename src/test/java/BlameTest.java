@@ -14,14 +14,8 @@ public final class BlameTest {
         checks.end();
     }
 
-    private static DomainSolver inWay(int way) {
-        DomainSolver x = new DomainSolver();
-        x.way(way);
-        return x;
-    }
-
     private static void needless(int way) {
-        DomainSolver x = inWay(way);
+        DomainSolver x = Solvers.inWay(way);
         for (int i : new int[] {-1, 0, 10, 31, 32, Integer.MIN_VALUE, Integer.MAX_VALUE}) {
             checks.due("12: needless(" + i + ") of none", x.needless(i), false);
         }
@@ -42,7 +36,7 @@ public final class BlameTest {
     }
 
     private static void needlessWithoutSolutions(int way) {
-        DomainSolver x = inWay(way);
+        DomainSolver x = Solvers.inWay(way);
         x.constraint(6, 0, 0, 1);
         checks.due("12: alone to blame", x.needless(0), false);
         x.constraint(6, 0, 1, 5);
@@ -57,7 +51,7 @@ public final class BlameTest {
 
     /** What is tried first is left out first: the later ones stay. */
     private static void blameIsForLater(int way) {
-        DomainSolver x = inWay(way);
+        DomainSolver x = Solvers.inWay(way);
         checks.due("13: blame() of none", x.blame(), 0);
         x.constraint(7, 0, 1, 0);
         checks.due("13: blame() of one", x.blame(), 1);
@@ -73,7 +67,7 @@ public final class BlameTest {
 
     /** Variable 0 less than 1, 1 less than 2, 2 less than 0: any two of them can hold. */
     private static void blameNeedsAll(int way) {
-        DomainSolver x = inWay(way);
+        DomainSolver x = Solvers.inWay(way);
         x.constraint(2, 8, 0, 0);
         x.constraint(0, 4 + 2 * 7 + 3 * 49 + 3 * 343, -1, 0);
         x.constraint(0, 3 + 4 * 7 + 2 * 49 + 3 * 343, -1, 0);
@@ -85,7 +79,7 @@ public final class BlameTest {
     }
 
     private static void blameWithEmptyDomain(int way) {
-        DomainSolver x = inWay(way);
+        DomainSolver x = Solvers.inWay(way);
         x.domain(2, 0);
         checks.due("13: blame() of an empty domain alone", x.blame(), 0);
         x.constraint(7, 0, 1, 0);
@@ -97,7 +91,7 @@ public final class BlameTest {
 
     /** Variable 0 can't have two values at once: the last two of ten stay. */
     private static void blameOfTen(int way) {
-        DomainSolver x = inWay(way);
+        DomainSolver x = Solvers.inWay(way);
         for (int i = 0; i < 10; i++) {
             x.constraint(7, 1, 1, i % 6);
         }

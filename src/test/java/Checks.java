@@ -1,18 +1,33 @@
 /** Counts and prints the answers that are not as due. */
 final class Checks {
+    private String sentence = "";
     private int looked = 0;
     private int wrong = 0;
+
+    /** The words of the document that the checks from here on stand for. */
+    void sentence(String words) {
+        sentence = words + " | ";
+    }
 
     void due(String call, long got, long want) {
         looked++;
         if (got != want) {
             wrong++;
-            System.out.println(call + " answered " + got + ", due is " + want);
+            System.out.println(sentence + call + " answered " + got + ", due is " + want);
         }
     }
 
     void due(String call, boolean got, boolean want) {
         due(call, got ? 1L : 0L, want ? 1L : 0L);
+    }
+
+    /** Whether two objects give the same answers to all questions. */
+    void same(String what, DomainSolver got, DomainSolver want) {
+        int[] answers = Solvers.answers(got);
+        int[] wanted = Solvers.answers(want);
+        for (int i = 0; i < answers.length; i++) {
+            due(what + ": question " + i + " of Solvers.answers", answers[i], wanted[i]);
+        }
     }
 
     int wrong() {

@@ -7,6 +7,12 @@ public final class KindsTest {
         for (int kind = 0; kind <= 8; kind++) {
             everyAssignment(kind);
         }
+        everyConstraint(2, 15, 0, 0);
+        everyConstraint(4, 3, 3, 3);
+        everyConstraint(5, 23, 23, 0);
+        everyConstraint(6, 3, 3, 5);
+        everyConstraint(7, 15, 4, 5);
+        everyConstraint(8, 3, 3, 15);
         checks.end();
     }
 
@@ -37,21 +43,11 @@ public final class KindsTest {
         };
         for (int[] row : rows) {
             for (int way = 0; way <= 2; way++) {
-                DomainSolver x = withValues(way, row[4], row[5], row[6], row[7]);
+                DomainSolver x = Solvers.withValues(way, row[4], row[5], row[6], row[7]);
                 x.constraint(row[0], row[1], row[2], row[3]);
                 checks.due(java.util.Arrays.toString(row) + " way " + way, x.solvable(), row[8] == 1);
             }
         }
-    }
-
-    private static DomainSolver withValues(int way, int a, int b, int c, int d) {
-        DomainSolver x = new DomainSolver();
-        x.way(way);
-        x.domain(0, 1 << a);
-        x.domain(1, 1 << b);
-        x.domain(2, 1 << c);
-        x.domain(3, 1 << d);
-        return x;
     }
 
     /** A spread of constraints of a kind, each with every assignment, against the model. */
@@ -61,11 +57,49 @@ public final class KindsTest {
             int[] c = numbers.properConstraint(kind);
             for (int code = 0; code < 1296; code++) {
                 int[] values = {code / 216, code / 36 % 6, code / 6 % 6, code % 6};
-                DomainSolver x = withValues(n % 3, values[0], values[1], values[2], values[3]);
+                DomainSolver x = Solvers.withValues(n % 3, values[0], values[1], values[2], values[3]);
                 x.constraint(c[0], c[1], c[2], c[3]);
                 checks.due(java.util.Arrays.toString(c) + " with " + java.util.Arrays.toString(values),
                     x.solvable(), Model.holds(c, values));
             }
+        }
+    }
+
+    /** All constraints of a kind up to the greatest p, q and r, each alone. */
+    private static void everyConstraint(int kind, int greatestP, int greatestQ, int greatestR) {
+        for (int p = 0; p <= greatestP; p++) {
+            for (int q = 0; q <= greatestQ; q++) {
+                for (int r = 0; r <= greatestR; r++) {
+                    int[] c = {kind, p, q, r};
+                    int[] counts = countsByModel(c);
+                    for (int way = 0; way <= 2; way++) {
+                        compareCounts(way, c, counts);
+                    }
+                }
+            }
+        }
+    }
+
+    /** At 6 * v + value: how many assignments with that value of variable v it holds for. */
+    private static int[] countsByModel(int[] c) {
+        int[] counts = new int[24];
+        for (int code = 0; code < 1296; code++) {
+            int[] values = {code / 216, code / 36 % 6, code / 6 % 6, code % 6};
+            if (Model.holds(c, values)) {
+                for (int v = 0; v < 4; v++) {
+                    counts[6 * v + values[v]]++;
+                }
+            }
+        }
+        return counts;
+    }
+
+    private static void compareCounts(int way, int[] c, int[] counts) {
+        DomainSolver x = Solvers.inWay(way);
+        x.constraint(c[0], c[1], c[2], c[3]);
+        for (int i = 0; i < 24; i++) {
+            checks.due(java.util.Arrays.toString(c) + " way " + way + " countWith(" + i / 6 + ", " + i % 6 + ")",
+                x.countWith(i / 6, i % 6), counts[i]);
         }
     }
 }

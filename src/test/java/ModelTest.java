@@ -1,7 +1,8 @@
 /** All promises at once: long runs of calls, right and wrong ones, whose answers the model knows. */
 public final class ModelTest {
-    private static final int RUNS = 250;
-    private static final int CALLS = 300;
+    private static final int RUNS = 200;
+    // As many as an object is promised to stand.
+    private static final int CALLS = 512;
     private static final Checks checks = new Checks();
 
     public static void main(String[] args) {

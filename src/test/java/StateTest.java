@@ -1,7 +1,7 @@
 /** Promises 1 to 4 and 15: a new object, domain, constraint, drop, way. */
 public final class StateTest {
-    private static final int LOW = Integer.MIN_VALUE;
-    private static final int HIGH = Integer.MAX_VALUE;
+    private static final int LOW = Solvers.LOW;
+    private static final int HIGH = Solvers.HIGH;
     private static final Checks checks = new Checks();
 
     public static void main(String[] args) {
